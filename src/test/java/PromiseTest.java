@@ -1,66 +1,13 @@
 /** One method a promise of the document: ordinary inputs, the edges that it names, and wrong inputs. */
-public final class PromiseTest {
-    private static final int NONE = -1;
-    private static final int FULL = -2;
-    private static final int REFUSED = -3;
+public final class PromiseTest extends DeskTest {
     private static final int[] NO_PLACES = {-1, -2, 28, 31, 32, 1000, Integer.MIN_VALUE, Integer.MAX_VALUE};
 
-    private static int wrong = 0;
-
-    private static void due(int promise, String what, long got, long want) {
-        if (got != want) {
-            wrong++;
-            System.out.println("promise " + promise + ": " + what + " answered " + got + ", due is " + want);
-        }
+    private static void due(int promise, String what, Object got, Object want) {
+        due("promise " + promise, what, got, want);
     }
 
-    private static void due(int promise, String what, boolean got, boolean want) {
-        due(promise, what, got ? 1 : 0, want ? 1 : 0);
-    }
-
-    /** A new object with the given program: "(" and ")" for a block, "d3" and "u3" for a name. */
-    private static RenameDesk desk(String text) {
-        RenameDesk desk = new RenameDesk();
-        int place = 0;
-        for (String word : words(text)) {
-            int answer = desk.add(kindOf(word), nameOf(word));
-            due(2, "add of " + word + " in \"" + text + "\"", answer, place);
-            place++;
-        }
-        return desk;
-    }
-
-    private static String[] words(String text) {
-        return text.isEmpty() ? new String[0] : text.split(" +");
-    }
-
-    private static int kindOf(String word) {
-        return "()du".indexOf(word.charAt(0));
-    }
-
-    private static int nameOf(String word) {
-        return word.length() == 1 ? 0 : word.charAt(1) - '0';
-    }
-
-    /** The object's program must be the given one, token by token. */
     private static void program(int promise, String what, RenameDesk desk, String text) {
-        String[] words = words(text);
-        due(promise, what + ", length()", desk.length(), words.length);
-        for (int k = 0; k < words.length; k++) {
-            due(promise, what + ", token(" + k + ")", desk.token(k), kindOf(words[k]) + 4 * nameOf(words[k]));
-        }
-    }
-
-    private static int bits(int... places) {
-        int set = 0;
-        for (int place : places) {
-            set |= 1 << place;
-        }
-        return set;
-    }
-
-    private static String repeated(String word, int times) {
-        return (word + " ").repeat(times).trim();
+        due(promise, what + ", the program", program(desk), text);
     }
 
     private static void newObject() {
@@ -449,9 +396,6 @@ public final class PromiseTest {
         depth();
         visible();
         orderAndLimits();
-        System.out.println(wrong == 0 ? "all answers are as due" : wrong + " answers are not as due");
-        if (wrong != 0) {
-            System.exit(1);
-        }
+        end();
     }
 }
